@@ -317,7 +317,7 @@ public final class ReplayLink {
         private static final int DATA_BEGIN = 251, WORD_BEGIN = 92;
         private static final int GOOD_END = 253, VOID_END = 254;
         private static final int ACK_KIND = 0, NAK_KIND = 16;
-        // In front of the packet: the begin, 0, the number. Behind it: four bytes of check, the end.
+        // Ahead of the packet: begin, 0, number. Behind it: four bytes of check, end.
         private static final int AHEAD = 3, BEHIND = 5;
         private static final int WORD_LENGTH = 6;
 

@@ -1,9 +1,7 @@
 import java.util.zip.CRC32;
 
-/** What the tests share: answers held against those that are due, and frames made by the document. */
+/** What the tests share: answers held against those due, and frames made by the document. */
 final class Due {
-    static final int DRAFT_BYTES = 24;
-
     private static int asked = 0;
     private static int wrong = 0;
 
@@ -66,7 +64,7 @@ final class Due {
         return new int[] {92, kind, number, check & 255, check >> 8, 253};
     }
 
-    /** By the polynomial 100B itself: the highest bit goes first, so bytes and answer are turned. */
+    /** By the polynomial 100B itself: the highest bit first, so bytes and answer are turned. */
     static int shortCheck(int... row) {
         int rest = 0xFFFF;
         for (int value : row) {
