@@ -42,6 +42,7 @@ public final class PromiseTest {
         promise6EldestFirst();
         promise7Settle();
         promise7SettleQuiet();
+        promise7FrameAloneIsNotQuiet();
         promise8Voids();
         promise9Bend();
         promise10Lose();
@@ -56,6 +57,9 @@ public final class PromiseTest {
         promise17And18KeepAgain();
         promise18AgainBringsAllBack();
         promise18GoesOnAlike();
+        promise18PacketsOfTheirOwn();
+        promise18AmidTraining();
+        promise18FullWires();
         Due.finish();
     }
 
@@ -258,6 +262,9 @@ public final class PromiseTest {
         ends("6 4", x, 0, 0, 0, 1, 0, 0, 0, 0, 1, 0, NONE, 0, 1, 1, 0);
         Due.is("6 many", x.tick(200), 0);
         counts("6", x, 204, 0, 0, 0, 2, 0, 0, 2, 0, 2, 0, 0, 0, 2, 0, 0, 0, 1);
+        offerOnes(x, 0, 1, 3);
+        // Three packets, an ACK of the first two, an ACK of the third.
+        Due.is("6 all that came in many", x.tick(200), 5);
     }
 
     private static void promise6TicksInAll() {
@@ -677,6 +684,23 @@ public final class PromiseTest {
         Due.is("7 unacked alone", x.count(QUIET), 0);
         // 12 ticks of R, one to come, one till the ACK, one for the ACK.
         Due.is("7 by the timer", x.settle(400), 15);
+    }
+
+    /** R 1 is over as the packet comes: it is laid once more, and acknowledged once more. */
+    private static void promise7FrameAloneIsNotQuiet() {
+        for (int end = 0; end < 2; end++) {
+            ReplayLink x = new ReplayLink();
+            x.set(1, 1);
+            x.set(2, 0);
+            Due.offer(x, end, 1);
+            x.tick(3);
+            ends("7 all else is quiet", x, end, 0, 0, 1, 0, 0, 0, 0, 0, 0, NONE, 0);
+            ends("7 all else is quiet", x, 1 - end, 0, 0, 0, 63, 0, 0, 0, 1, 0, NONE, 0);
+            Due.is("7 nothing on its wire", x.wire(end, -1, 0), 0);
+            Due.is("7 an ACK on the other", x.wire(1 - end, -1, 0), 1);
+            Due.is("7 not quiet", x.count(QUIET), 0);
+            Due.is("7 one tick", x.settle(9), 1);
+        }
     }
 
     private static void promise8Voids() {
@@ -1100,6 +1124,83 @@ public final class PromiseTest {
         for (int i = 0; i < once.length; i++) {
             Due.is("18 goes on alike " + i, anew[i], once[i]);
         }
+    }
+
+    /** Kept packets are not those that the object writes over what it had. */
+    private static void promise18PacketsOfTheirOwn() {
+        ReplayLink x = new ReplayLink();
+        offerOnes(x, 0, 1, 3);
+        x.keep(0);
+        x.settle(50);
+        x.keep(1);
+        for (int i = 0; i < 24; i++) {
+            Due.offer(x, 0, 100 + i, 200);
+            x.settle(50);
+        }
+        x.again(0);
+        x.settle(50);
+        for (int i = 0; i < 3; i++) {
+            Due.upIs("18 waited then", x, 1, i, i + 1);
+        }
+        x.again(0);
+        x.tick(1);
+        x.lose(0, 0);
+        x.tick(1);
+        Due.forge(x, 0, 0, Due.dataFrame(0, 88));
+        x.tick(1);
+        Due.upIs("18 another first one", x, 1, 0, 88);
+        x.again(1);
+        Due.upIs("18 handed up then", x, 1, 0, 1);
+        Due.is("18 handed up then", x.end(1, HANDED_UP), 3);
+    }
+
+    /** Kept as a NAK is due, an ACK is DUE, a TIMER is under way and TRAINING is on. */
+    private static void promise18AmidTraining() {
+        ReplayLink x = new ReplayLink();
+        x.set(0, 2);
+        x.set(1, 2);
+        x.set(2, 9);
+        Due.offer(x, 0, 1);
+        // Laid in tick 1, and again in 3, 5, 7; handed up in 3; the last of them is to come in 9.
+        x.tick(7);
+        x.bend(0, 0, 3, 1);
+        Due.offer(x, 1, 7);
+        x.tick(2);
+        Due.is("18 training", x.count(TRAINING), 5);
+        ends("18 amid training", x, 1, 0, 1, 1, 63, 1, 0, 0, 1, 1, 2, 1, 1, 1, 0);
+        long[] kept = seen(x);
+        x.keep(1);
+        x.set(1, 60);
+        x.settle(400);
+        Due.is("18 quiet", x.count(QUIET), 1);
+        x.again(1);
+        long[] anew = seen(x);
+        for (int i = 0; i < kept.length; i++) {
+            Due.is("18 amid training " + i, anew[i], kept[i]);
+        }
+    }
+
+    private static void promise18FullWires() {
+        ReplayLink x = new ReplayLink();
+        x.set(0, 6);
+        Due.offer(x, 0, 1);
+        Due.offer(x, 1, 2, 3);
+        x.tick(1);
+        for (int i = 1; i < 12; i++) {
+            x.twice(0, 0);
+            x.twice(1, 0);
+        }
+        x.bend(0, 11, 0, 1);
+        x.bend(1, 11, 0, 2);
+        x.keep(0);
+        x.tick(6);
+        Due.is("18 a NAK alone", x.wire(0, -1, 0), 1);
+        x.again(0);
+        Due.is("18 full again", x.wire(0, -1, 0), 12);
+        Due.is("18 full again", x.wire(1, -1, 0), 12);
+        Due.is("18 bent", x.wire(0, 11, 3), 250);
+        Due.is("18 bent", x.wire(1, 11, 3), 249);
+        Due.is("18 all come", x.tick(6), 24);
     }
 
     private static void busyWithAll(ReplayLink x) {
