@@ -24,11 +24,32 @@ final class Due {
     }
 
     /** Drafts and offers a packet of these bytes. */
-    static int offer(ReplayLink x, int end, int... packet) {
+    static int offer(Counted x, int end, int... packet) {
         for (int value : packet) {
             x.draft(end, 1, value);
         }
         return x.offer(end);
+    }
+
+    /** Offers packets of one byte each, from one value to another. */
+    static void offerOnes(Counted x, int end, int from, int to) {
+        for (int v = from; v <= to; v++) {
+            offer(x, end, v);
+        }
+    }
+
+    /** What end() tells of an END, from its first number on. */
+    static void ends(String at, Counted x, int end, int... want) {
+        for (int what = 0; what < want.length; what++) {
+            is(at + " end(" + end + ", " + what + ")", x.end(end, what), want[what]);
+        }
+    }
+
+    /** What count() tells, from its first number on. */
+    static void counts(String at, Counted x, int... want) {
+        for (int what = 0; what < want.length; what++) {
+            is(at + " count(" + what + ")", x.count(what), want[what]);
+        }
     }
 
     static int[] dataFrame(int number, int... packet) {
@@ -77,7 +98,7 @@ final class Due {
     }
 
     /** Bends the frame at a place, which must be as long, till it has just these bytes. */
-    static void forge(ReplayLink x, int wire, int place, int[] want) {
+    static void forge(Counted x, int wire, int place, int[] want) {
         for (int i = 0; i < want.length; i++) {
             int has = x.wire(wire, place, 3 + i);
             if (has != want[i]) {
@@ -86,7 +107,7 @@ final class Due {
         }
     }
 
-    static void frameIs(String name, ReplayLink x, int wire, int place, int[] want) {
+    static void frameIs(String name, Counted x, int wire, int place, int[] want) {
         is(name + " length", x.wire(wire, place, 0), want.length);
         for (int i = 0; i <= 32; i++) {
             is(name + " byte " + i, x.wire(wire, place, 3 + i),
@@ -94,7 +115,7 @@ final class Due {
         }
     }
 
-    static void upIs(String name, ReplayLink x, int end, int i, int... want) {
+    static void upIs(String name, Counted x, int end, int i, int... want) {
         is(name + " length", x.up(end, i), want.length);
         for (int k = 0; k < want.length; k++) {
             is(name + " byte " + k, x.upByte(end, i, k), want[k]);

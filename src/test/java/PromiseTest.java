@@ -1,19 +1,5 @@
 /** Each promise by itself: the ordinary, the edges that the document names, and wrong inputs. */
-public final class PromiseTest {
-    private static final int BAD = -1, NO = -2, FULL = -3, NONE = -4;
-    private static final int LOWEST = Integer.MIN_VALUE, HIGHEST = Integer.MAX_VALUE;
-
-    // What end() and count() are asked for.
-    private static final int WAITING = 0, UNACKED = 1, NEXT = 2, ACKED = 3, TIMER = 4, TRIES = 5,
-            AGAIN = 6, WANTED = 7, NAKKED = 8, ACK_DUE = 9, NAK_DUE = 10, OFFERED = 11,
-            HANDED_UP = 12, DRAFT = 13;
-    private static final int TICKS = 0, TRAINING = 1, TRAININGS = 2, SENDINGS_AGAIN = 3,
-            LAID_FIRST = 4, LAID_AGAIN = 5, LAID_VOID = 6, LAID_ACK = 7, LAID_NAK = 8,
-            CAME_UP = 9, CAME_REPEAT = 10, CAME_ELSE = 11, CAME_VOID = 12, CAME_WORD = 13,
-            CAME_WRONG = 14, CAME_BAD = 15, CAME_NOTHING = 16, QUIET = 17;
-    private static final int READ = 2;
-    private static final int DATA = 0, VOID = 1, ACK = 2, NAK = 3, SPOILT = 4, NOTHING = 5;
-
+public final class PromiseTest implements Names {
     private PromiseTest() {
     }
 
@@ -63,29 +49,11 @@ public final class PromiseTest {
         Due.finish();
     }
 
-    private static void ends(String at, ReplayLink x, int end, int... want) {
-        for (int what = 0; what < want.length; what++) {
-            Due.is(at + " end(" + end + ", " + what + ")", x.end(end, what), want[what]);
-        }
-    }
-
-    private static void counts(String at, ReplayLink x, int... want) {
-        for (int what = 0; what < want.length; what++) {
-            Due.is(at + " count(" + what + ")", x.count(what), want[what]);
-        }
-    }
-
-    private static void offerOnes(ReplayLink x, int end, int from, int to) {
-        for (int v = from; v <= to; v++) {
-            Due.offer(x, end, v);
-        }
-    }
-
     private static void promise1NewObject() {
-        ReplayLink x = new ReplayLink();
-        ends("1", x, 0, 0, 0, 0, 63, 0, 0, 0, 0, 0, NONE, 0, 0, 0, 0);
-        ends("1", x, 1, 0, 0, 0, 63, 0, 0, 0, 0, 0, NONE, 0, 0, 0, 0);
-        counts("1", x, 0, 0, 0, 0, 0, 0, 0, 0, 0, 0, 0, 0, 0, 0, 0, 0, 0, 1);
+        Counted x = new Counted();
+        Due.ends("1", x, 0, 0, 0, 0, 63, 0, 0, 0, 0, 0, NONE, 0, 0, 0, 0);
+        Due.ends("1", x, 1, 0, 0, 0, 63, 0, 0, 0, 0, 0, NONE, 0, 0, 0, 0);
+        Due.counts("1", x, 0, 0, 0, 0, 0, 0, 0, 0, 0, 0, 0, 0, 0, 0, 0, 0, 0, 1);
         for (int side = 0; side < 2; side++) {
             Due.is("1 wire", x.wire(side, -1, 0), 0);
             Due.is("1 up", x.up(side, 0), NONE);
@@ -99,7 +67,7 @@ public final class PromiseTest {
     }
 
     private static void promise2Draft() {
-        ReplayLink x = new ReplayLink();
+        Counted x = new Counted();
         for (int end : new int[] {-1, 2, LOWEST, HIGHEST}) {
             Due.is("2 end", x.draft(end, 1, 5), BAD);
         }
@@ -127,7 +95,7 @@ public final class PromiseTest {
     }
 
     private static void promise3Offer() {
-        ReplayLink x = new ReplayLink();
+        Counted x = new Counted();
         for (int end : new int[] {-1, 2, LOWEST, HIGHEST}) {
             Due.is("3 end", x.offer(end), BAD);
         }
@@ -150,7 +118,7 @@ public final class PromiseTest {
     }
 
     private static void promise3OffersInAll() {
-        ReplayLink x = new ReplayLink();
+        Counted x = new Counted();
         for (int i = 0; i < 60; i++) {
             Due.is("3 in all", Due.offer(x, 1, i, 255 - i), i % 15 + 1);
             if (i % 15 == 14) {
@@ -163,7 +131,7 @@ public final class PromiseTest {
         Due.is("3 draft stays", x.end(1, DRAFT), 1);
         Due.is("3 offered", x.end(1, OFFERED), 60);
         Due.is("3 the other end", Due.offer(x, 0, 1), 1);
-        ends("3 in all", x, 1, 0, 0, 60, 59, 0, 0, 0, 0, 0, NONE, 0, 60, 0, 1);
+        Due.ends("3 in all", x, 1, 0, 0, 60, 59, 0, 0, 0, 0, 0, NONE, 0, 60, 0, 1);
         for (int i = 0; i < 60; i++) {
             Due.upIs("3 in all", x, 0, i, i, 255 - i);
         }
@@ -171,7 +139,7 @@ public final class PromiseTest {
     }
 
     private static void promise4Check() {
-        ReplayLink x = new ReplayLink();
+        Counted x = new Counted();
         for (int end : new int[] {-1, 2, LOWEST, HIGHEST}) {
             Due.is("4 end", x.check(end, 0), BAD);
         }
@@ -194,7 +162,7 @@ public final class PromiseTest {
     }
 
     private static void promise5Set() {
-        ReplayLink x = new ReplayLink();
+        Counted x = new Counted();
         int[] low = {1, 1, 0};
         int[] high = {6, 60, 9};
         int[] was = {1, 12, 2};
@@ -212,7 +180,7 @@ public final class PromiseTest {
     }
 
     private static void promise5SetRules() {
-        ReplayLink x = new ReplayLink();
+        Counted x = new Counted();
         x.set(0, 6);
         Due.offer(x, 0, 1);
         x.tick(1);
@@ -240,7 +208,7 @@ public final class PromiseTest {
     }
 
     private static void promise6Tick() {
-        ReplayLink x = new ReplayLink();
+        Counted x = new Counted();
         for (int n : new int[] {-1, 0, 201, LOWEST, HIGHEST}) {
             Due.is("6 n", x.tick(n), BAD);
         }
@@ -251,24 +219,24 @@ public final class PromiseTest {
         Due.frameIs("6 wire 0", x, 0, 0, Due.dataFrame(0, 10, 20));
         Due.frameIs("6 wire 1", x, 1, 0, Due.dataFrame(0, 30));
         Due.is("6 both come", x.tick(1), 2);
-        ends("6 2", x, 0, 0, 1, 1, 63, 1, 0, 0, 1, 0, 1, 0, 1, 1, 0);
-        ends("6 2", x, 1, 0, 1, 1, 63, 1, 0, 0, 1, 0, 1, 0, 1, 1, 0);
+        Due.ends("6 2", x, 0, 0, 1, 1, 63, 1, 0, 0, 1, 0, 1, 0, 1, 1, 0);
+        Due.ends("6 2", x, 1, 0, 1, 1, 63, 1, 0, 0, 1, 0, 1, 0, 1, 1, 0);
         Due.is("6 words are laid", x.tick(1), 0);
         Due.frameIs("6 ACK", x, 0, 0, Due.wordFrame(0, 0));
         Due.frameIs("6 ACK", x, 1, 0, Due.wordFrame(0, 0));
         Due.is("6 not due any more", x.end(0, ACK_DUE), NONE);
         Due.is("6 timer", x.end(0, TIMER), 2);
         Due.is("6 words come", x.tick(1), 2);
-        ends("6 4", x, 0, 0, 0, 1, 0, 0, 0, 0, 1, 0, NONE, 0, 1, 1, 0);
+        Due.ends("6 4", x, 0, 0, 0, 1, 0, 0, 0, 0, 1, 0, NONE, 0, 1, 1, 0);
         Due.is("6 many", x.tick(200), 0);
-        counts("6", x, 204, 0, 0, 0, 2, 0, 0, 2, 0, 2, 0, 0, 0, 2, 0, 0, 0, 1);
-        offerOnes(x, 0, 1, 3);
+        Due.counts("6", x, 204, 0, 0, 0, 2, 0, 0, 2, 0, 2, 0, 0, 0, 2, 0, 0, 0, 1);
+        Due.offerOnes(x, 0, 1, 3);
         // Three packets, an ACK of the first two, an ACK of the third.
         Due.is("6 all that came in many", x.tick(200), 5);
     }
 
     private static void promise6TicksInAll() {
-        ReplayLink x = new ReplayLink();
+        Counted x = new Counted();
         for (int i = 0; i < 99; i++) {
             x.tick(200);
         }
@@ -289,28 +257,28 @@ public final class PromiseTest {
     }
 
     private static void promise6Window() {
-        ReplayLink x = new ReplayLink();
+        Counted x = new Counted();
         x.set(0, 6);
         x.set(1, 60);
         x.set(2, 9);
-        offerOnes(x, 0, 1, 10);
+        Due.offerOnes(x, 0, 1, 10);
         x.tick(7);
-        ends("6 seven", x, 0, 3, 7, 7, 63);
+        Due.ends("6 seven", x, 0, 3, 7, 7, 63);
         Due.is("6 eldest came", x.wire(0, -1, 0), 6);
         x.tick(1);
-        ends("6 eight", x, 0, 2, 8, 8, 63);
+        Due.ends("6 eight", x, 0, 2, 8, 8, 63);
         x.tick(1);
-        ends("6 no ninth", x, 0, 2, 8, 8, 63);
+        Due.ends("6 no ninth", x, 0, 2, 8, 8, 63);
         // Laid in tick 1, came in 7, its ACK due in 9 (8 after that tick): laid in 15, here in 21.
         x.tick(11);
-        ends("6 tick 20", x, 0, 2, 8, 8, 63, 19);
+        Due.ends("6 tick 20", x, 0, 2, 8, 8, 63, 19);
         x.tick(1);
         // All eight had come by 14, so that ACK tells 7; the ninth goes in the same tick.
-        ends("6 tick 21", x, 0, 1, 1, 9, 7, 0);
+        Due.ends("6 tick 21", x, 0, 1, 1, 9, 7, 0);
     }
 
     private static void promise6Timer() {
-        ReplayLink x = new ReplayLink();
+        Counted x = new Counted();
         x.set(1, 4);
         Due.offer(x, 0, 1);
         Due.offer(x, 0, 2);
@@ -322,21 +290,21 @@ public final class PromiseTest {
         x.tick(1);
         x.lose(0, 0);
         x.tick(1);
-        ends("6 timer", x, 0, 0, 3, 3, 63, 3, 0, 0);
+        Due.ends("6 timer", x, 0, 0, 3, 3, 63, 3, 0, 0);
         x.tick(1);
-        ends("6 sends again", x, 0, 0, 3, 3, 63, 0, 1, 2);
+        Due.ends("6 sends again", x, 0, 0, 3, 3, 63, 0, 1, 2);
         Due.frameIs("6 eldest first", x, 0, 0, Due.dataFrame(0, 1));
         x.lose(0, 0);
         x.tick(1);
         Due.frameIs("6 then the next", x, 0, 0, Due.dataFrame(1, 2));
-        ends("6 timer stands", x, 0, 0, 3, 3, 63, 0, 1, 1);
+        Due.ends("6 timer stands", x, 0, 0, 3, 3, 63, 0, 1, 1);
         x.lose(0, 0);
         x.tick(1);
         Due.frameIs("6 then the last", x, 0, 0, Due.dataFrame(2, 3));
-        ends("6 timer stands", x, 0, 0, 3, 3, 63, 0, 1, 0);
+        Due.ends("6 timer stands", x, 0, 0, 3, 3, 63, 0, 1, 0);
         x.tick(1);
-        ends("6 timer goes", x, 0, 0, 3, 3, 63, 1, 1, 0);
-        counts("6 again", x, 8, 0, 0, 1, 3, 3, 0, 0, 1);
+        Due.ends("6 timer goes", x, 0, 0, 3, 3, 63, 1, 1, 0);
+        Due.counts("6 again", x, 8, 0, 0, 1, 3, 3, 0, 0, 1);
         x.settle(100);
         for (int i = 0; i < 3; i++) {
             Due.upIs("6 in order", x, 1, i, i + 1);
@@ -345,7 +313,7 @@ public final class PromiseTest {
     }
 
     private static void promise6TimerRests() {
-        ReplayLink x = new ReplayLink();
+        Counted x = new Counted();
         x.tick(50);
         Due.is("6 nothing unacked", x.end(0, TIMER), 0);
         Due.is("6 nothing unacked", x.count(SENDINGS_AGAIN), 0);
@@ -363,7 +331,7 @@ public final class PromiseTest {
     }
 
     private static void promise6Training() {
-        ReplayLink x = new ReplayLink();
+        Counted x = new Counted();
         x.set(1, 1);
         x.set(0, 6);
         x.set(2, 9);
@@ -371,14 +339,14 @@ public final class PromiseTest {
         Due.offer(x, 1, 2);
         // With R 1, from tick 2 on: the timer is over, and the packet is laid again.
         x.tick(4);
-        ends("6 tick 4", x, 0, 0, 1, 1, 63, 0, 3, 0);
-        ends("6 tick 4", x, 1, 0, 1, 1, 63, 0, 3, 0);
+        Due.ends("6 tick 4", x, 0, 0, 1, 1, 63, 0, 3, 0);
+        Due.ends("6 tick 4", x, 1, 0, 1, 1, 63, 0, 3, 0);
         Due.is("6 wires", x.wire(0, -1, 0), 4);
         x.tick(1);
         // END 0's fourth try trains, and END 1's, in the same tick, anew.
-        ends("6 tick 5", x, 0, 0, 1, 1, 63, 0, 0, 1);
-        ends("6 tick 5", x, 1, 0, 1, 1, 63, 0, 0, 1);
-        counts("6 tick 5", x, 5, 5, 2, 8, 2, 6);
+        Due.ends("6 tick 5", x, 0, 0, 1, 1, 63, 0, 0, 1);
+        Due.ends("6 tick 5", x, 1, 0, 1, 1, 63, 0, 0, 1);
+        Due.counts("6 tick 5", x, 5, 5, 2, 8, 2, 6);
         Due.is("6 all is gone", x.wire(0, -1, 0) + x.wire(1, -1, 0), 0);
         x.set(1, 60);
         for (int left = 4; left >= 0; left--) {
@@ -391,21 +359,21 @@ public final class PromiseTest {
         Due.frameIs("6 behind the training", x, 0, 0, Due.dataFrame(0, 1));
         Due.frameIs("6 behind the training", x, 1, 0, Due.dataFrame(0, 2));
         Due.is("6 again is over", x.end(0, AGAIN), 0);
-        counts("6 tick 11", x, 11, 0, 2, 8, 2, 8);
+        Due.counts("6 tick 11", x, 11, 0, 2, 8, 2, 8);
     }
 
     /** The third R of 2 is over in tick 7; then a NAK on WIRE 1 is the fourth try of END 0. */
     private static void promise6TrainingByNak() {
-        ReplayLink x = new ReplayLink();
+        Counted x = new Counted();
         x.set(1, 2);
         x.set(2, 9);
-        offerOnes(x, 0, 1, 1);
-        offerOnes(x, 1, 7, 7);
+        Due.offerOnes(x, 0, 1, 1);
+        Due.offerOnes(x, 1, 7, 7);
         x.tick(1);
         x.lose(0, 0);
         x.tick(1);
         // END 1's packet came to END 0 in tick 2: an ACK is due in 9, 8 behind that tick.
-        ends("6 tick 2", x, 0, 0, 1, 1, 63, 1, 0, 0, 1, 0, 8, 0);
+        Due.ends("6 tick 2", x, 0, 0, 1, 1, 63, 1, 0, 0, 1, 0, 8, 0);
         x.tick(1);
         Due.is("6 tick 3", x.end(0, TRIES), 1);
         x.lose(0, 0);
@@ -427,9 +395,9 @@ public final class PromiseTest {
         x.twice(1, 0);
         // END 1 had its packet: the NAK acknowledges it. END 0's has not come: tries is 4.
         Due.is("6 the second NAK of WIRE 1 is gone", x.tick(1), 3);
-        counts("6 tick 9", x, 9, 5, 1, 7);
-        ends("6 tick 9", x, 0, 0, 1, 1, 63, 0, 0, 1);
-        ends("6 tick 9", x, 1, 0, 0, 1, 0, 0, 0, 0);
+        Due.counts("6 tick 9", x, 9, 5, 1, 7);
+        Due.ends("6 tick 9", x, 0, 0, 1, 1, 63, 0, 0, 1);
+        Due.ends("6 tick 9", x, 1, 0, 0, 1, 0, 0, 0, 0);
         Due.is("6 gone", x.wire(1, -1, 0), 0);
         // Laid in tick 15, it comes in 16; the ACK is due in 9 (8 behind that tick), comes in 25.
         Due.is("6 settles", x.settle(100), 16);
@@ -438,7 +406,7 @@ public final class PromiseTest {
 
     /** Training that begins as frames come leaves that tick its timers, and no other. */
     private static void promise6TrainingLeavesTimers() {
-        ReplayLink x = new ReplayLink();
+        Counted x = new Counted();
         x.set(2, 5);
         Due.offer(x, 0, 1);
         Due.offer(x, 1, 2);
@@ -468,11 +436,11 @@ public final class PromiseTest {
     }
 
     private static void promise6LayingOrder() {
-        ReplayLink x = new ReplayLink();
+        Counted x = new Counted();
         x.set(2, 0);
         x.set(1, 60);
-        offerOnes(x, 0, 1, 2);
-        offerOnes(x, 1, 11, 13);
+        Due.offerOnes(x, 0, 1, 2);
+        Due.offerOnes(x, 1, 11, 13);
         x.tick(1);
         x.bend(0, 0, 3, 1);
         x.twice(1, 0);
@@ -480,7 +448,7 @@ public final class PromiseTest {
         // END 0 takes a packet in (an ACK is due at once) and a BAD frame (a NAK is due).
         Due.is("6 three come", x.tick(1), 3);
         Due.frameIs("6 the NAK first", x, 0, 0, Due.wordFrame(16, 0));
-        ends("6 ACK is not due any more", x, 0, 1, 1, 1, 63, 1, 0, 0, 1, 1, NONE, 0);
+        Due.ends("6 ACK is not due any more", x, 0, 1, 1, 1, 63, 1, 0, 0, 1, 1, NONE, 0);
         Due.frameIs("6 NAK ahead of new", x, 1, 0, Due.wordFrame(16, 63));
         x.tick(1);
         // END 1's NAK: END 0 sends again ahead of its new packet. END 0's NAK told 0.
@@ -502,9 +470,9 @@ public final class PromiseTest {
     private static void promise6Words() {
         for (int number = 0; number < 64; number++) {
             for (int kind = 0; kind <= 16; kind += 16) {
-                ReplayLink x = new ReplayLink();
+                Counted x = new Counted();
                 x.set(1, 60);
-                offerOnes(x, 0, 1, 3);
+                Due.offerOnes(x, 0, 1, 3);
                 x.set(2, 3);
                 x.tick(4);
                 // END 1 took the first in tick 2, and all three by tick 4, when it lays an ACK.
@@ -530,9 +498,9 @@ public final class PromiseTest {
     }
 
     private static void promise6NakAcknowledgesToo() {
-        ReplayLink x = new ReplayLink();
+        Counted x = new Counted();
         x.set(1, 60);
-        offerOnes(x, 0, 1, 3);
+        Due.offerOnes(x, 0, 1, 3);
         x.tick(2);
         // The second is on the wire, the first was handed up.
         x.bend(0, 0, 7, 16);
@@ -541,35 +509,35 @@ public final class PromiseTest {
         Due.is("6 one ACK was due", x.end(1, ACK_DUE), NONE);
         x.tick(1);
         // The third, ahead of its turn, came in this tick too; END 1 is NAKKED already.
-        ends("6 NAK", x, 0, 0, 2, 3, 0, 0, 1, 1);
-        ends("6 NAK", x, 1, 0, 0, 0, 63, 0, 0, 0, 1, 1, NONE, 0);
+        Due.ends("6 NAK", x, 0, 0, 2, 3, 0, 0, 1, 1);
+        Due.ends("6 NAK", x, 1, 0, 0, 0, 63, 0, 0, 0, 1, 1, NONE, 0);
         Due.is("6 dropped", x.count(CAME_ELSE), 1);
         Due.frameIs("6 the eldest unacked", x, 0, 0, Due.dataFrame(1, 2));
         x.tick(1);
-        ends("6 not NAKKED", x, 1, 0, 0, 0, 63, 0, 0, 0, 2, 0, 1, 0);
+        Due.ends("6 not NAKKED", x, 1, 0, 0, 0, 63, 0, 0, 0, 2, 0, 1, 0);
         x.settle(50);
         Due.is("6 all came", x.end(1, HANDED_UP), 3);
-        counts("6 all came", x, 7, 0, 0, 1, 3, 2, 0, 1, 1, 3, 0, 1, 0, 2, 0, 1, 0, 1);
+        Due.counts("6 all came", x, 7, 0, 0, 1, 3, 2, 0, 1, 1, 3, 0, 1, 0, 2, 0, 1, 0, 1);
     }
 
     private static void promise6AckWhileSendingAgain() {
-        ReplayLink x = new ReplayLink();
+        Counted x = new Counted();
         x.set(1, 3);
         x.set(2, 1);
         x.set(0, 2);
-        offerOnes(x, 0, 1, 4);
+        Due.offerOnes(x, 0, 1, 4);
         // Laid in 1 to 3. Tick 3: the first comes and is acknowledged in that tick, to come in 5.
         x.tick(3);
         Due.is("6 ACK", x.wire(1, 0, READ), ACK);
-        ends("6 tick 3", x, 0, 1, 3, 3, 63, 2, 0, 0);
+        Due.ends("6 tick 3", x, 0, 1, 3, 3, 63, 2, 0, 0);
         x.tick(1);
         // The timer is over: all three are to be sent again, one is at once.
-        ends("6 tick 4", x, 0, 1, 3, 3, 63, 0, 1, 2);
+        Due.ends("6 tick 4", x, 0, 1, 3, 3, 63, 0, 1, 2);
         Due.is("6 ACK", x.wire(1, 1, READ), ACK);
         Due.forge(x, 1, 0, Due.wordFrame(0, 1));
         x.tick(1);
         // Of the two to be sent again the elder is acknowledged; the other goes in this tick.
-        ends("6 tick 5", x, 0, 1, 1, 3, 1, 0, 0, 0);
+        Due.ends("6 tick 5", x, 0, 1, 1, 3, 1, 0, 0, 0);
         Due.is("6 the last", x.wire(0, x.wire(0, -1, 0) - 1, 3 + 2), 2);
         x.settle(60);
         Due.is("6 all came", x.end(1, HANDED_UP), 4);
@@ -577,7 +545,7 @@ public final class PromiseTest {
     }
 
     private static void promise6NaksOnce() {
-        ReplayLink x = new ReplayLink();
+        Counted x = new Counted();
         x.set(1, 60);
         Due.offer(x, 0, 1);
         x.tick(1);
@@ -588,7 +556,7 @@ public final class PromiseTest {
         Due.is("6 three BAD ones", x.tick(1), 3);
         Due.is("6 BAD", x.count(CAME_BAD), 3);
         Due.is("6 one NAK", x.count(LAID_NAK), 1);
-        ends("6 NAKKED", x, 1, 0, 0, 0, 63, 0, 0, 0, 0, 1, NONE, 0);
+        Due.ends("6 NAKKED", x, 1, 0, 0, 0, 63, 0, 0, 0, 0, 1, NONE, 0);
         x.lose(1, 0);
         Due.is("6 no more", x.tick(50), 0);
         Due.is("6 no more", x.count(LAID_NAK), 1);
@@ -597,9 +565,9 @@ public final class PromiseTest {
     /** DATA with every number comes to an END 1 that wants 1. */
     private static void promise6DataDistances() {
         for (int number = 0; number < 64; number++) {
-            ReplayLink x = new ReplayLink();
+            Counted x = new Counted();
             x.set(2, 0);
-            offerOnes(x, 0, 1, 2);
+            Due.offerOnes(x, 0, 1, 2);
             x.tick(2);
             Due.is("6 ACK of 0", x.wire(1, 0, READ), ACK);
             Due.forge(x, 0, 0, Due.dataFrame(number, 77));
@@ -621,10 +589,10 @@ public final class PromiseTest {
     }
 
     private static void promise6EldestFirst() {
-        ReplayLink x = new ReplayLink();
+        Counted x = new Counted();
         x.set(1, 60);
         x.set(0, 3);
-        offerOnes(x, 0, 1, 3);
+        Due.offerOnes(x, 0, 1, 3);
         x.tick(1);
         x.set(0, 2);
         x.tick(1);
@@ -635,7 +603,7 @@ public final class PromiseTest {
         }
         Due.is("6 all come", x.tick(1), 3);
         Due.is("6 in order", x.end(1, HANDED_UP), 3);
-        offerOnes(x, 0, 4, 5);
+        Due.offerOnes(x, 0, 4, 5);
         x.set(0, 4);
         x.tick(1);
         x.set(0, 1);
@@ -648,7 +616,7 @@ public final class PromiseTest {
     }
 
     private static void promise7Settle() {
-        ReplayLink x = new ReplayLink();
+        Counted x = new Counted();
         for (int n : new int[] {-1, 0, 401, LOWEST, HIGHEST}) {
             Due.is("7 n", x.settle(n), BAD);
         }
@@ -670,7 +638,7 @@ public final class PromiseTest {
     }
 
     private static void promise7SettleQuiet() {
-        ReplayLink x = new ReplayLink();
+        Counted x = new Counted();
         x.draft(0, 1, 1);
         x.voids(0);
         Due.is("7 a draft is quiet", x.count(QUIET), 1);
@@ -689,13 +657,13 @@ public final class PromiseTest {
     /** R 1 is over as the packet comes: it is laid once more, and acknowledged once more. */
     private static void promise7FrameAloneIsNotQuiet() {
         for (int end = 0; end < 2; end++) {
-            ReplayLink x = new ReplayLink();
+            Counted x = new Counted();
             x.set(1, 1);
             x.set(2, 0);
             Due.offer(x, end, 1);
             x.tick(3);
-            ends("7 all else is quiet", x, end, 0, 0, 1, 0, 0, 0, 0, 0, 0, NONE, 0);
-            ends("7 all else is quiet", x, 1 - end, 0, 0, 0, 63, 0, 0, 0, 1, 0, NONE, 0);
+            Due.ends("7 all else is quiet", x, end, 0, 0, 1, 0, 0, 0, 0, 0, 0, NONE, 0);
+            Due.ends("7 all else is quiet", x, 1 - end, 0, 0, 0, 63, 0, 0, 0, 1, 0, NONE, 0);
             Due.is("7 nothing on its wire", x.wire(end, -1, 0), 0);
             Due.is("7 an ACK on the other", x.wire(1 - end, -1, 0), 1);
             Due.is("7 not quiet", x.count(QUIET), 0);
@@ -704,7 +672,7 @@ public final class PromiseTest {
     }
 
     private static void promise8Voids() {
-        ReplayLink x = new ReplayLink();
+        Counted x = new Counted();
         for (int end : new int[] {-1, 2, LOWEST, HIGHEST}) {
             Due.is("8 end", x.voids(end), BAD);
         }
@@ -719,11 +687,11 @@ public final class PromiseTest {
         Due.frameIs("8 VOID", x, 1, 0, Due.voidFrame(0, 5, 6));
         Due.is("8 VOID", x.wire(1, 0, READ), VOID);
         Due.frameIs("8 the other end", x, 0, 0, Due.dataFrame(0, 8));
-        ends("8 it still waits", x, 1, 1, 0, 0, 63);
+        Due.ends("8 it still waits", x, 1, 1, 0, 0, 63);
         Due.is("8 told no more", x.voids(1), 0);
         x.tick(1);
         Due.frameIs("8 VOID anew", x, 1, 0, Due.voidFrame(0, 5, 6));
-        ends("8 dropped", x, 0, 0, 1, 1, 63, 1, 0, 0, 0, 0, NONE, 0, 1, 0, 0);
+        Due.ends("8 dropped", x, 0, 0, 1, 1, 63, 1, 0, 0, 0, 0, NONE, 0, 1, 0, 0);
         x.tick(2);
         Due.is("8 VOIDs came", x.count(CAME_VOID), 2);
         Due.is("8 VOIDs laid", x.count(LAID_VOID), 2);
@@ -733,7 +701,7 @@ public final class PromiseTest {
     }
 
     private static void promise9Bend() {
-        ReplayLink x = new ReplayLink();
+        Counted x = new Counted();
         Due.is("9 no frame", x.bend(0, 0, 0, 1), BAD);
         Due.offer(x, 0, 0x55);
         x.tick(1);
@@ -761,9 +729,9 @@ public final class PromiseTest {
     }
 
     private static void promise10Lose() {
-        ReplayLink x = new ReplayLink();
+        Counted x = new Counted();
         x.set(0, 6);
-        offerOnes(x, 0, 1, 4);
+        Due.offerOnes(x, 0, 1, 4);
         x.tick(3);
         for (int wire : new int[] {-1, 1, 2, LOWEST, HIGHEST}) {
             Due.is("10 wire", x.lose(wire, 0), BAD);
@@ -786,9 +754,9 @@ public final class PromiseTest {
     }
 
     private static void promise11Twice() {
-        ReplayLink x = new ReplayLink();
+        Counted x = new Counted();
         x.set(0, 5);
-        offerOnes(x, 1, 1, 2);
+        Due.offerOnes(x, 1, 1, 2);
         x.tick(2);
         for (int wire : new int[] {-1, 0, 2, LOWEST, HIGHEST}) {
             Due.is("11 wire", x.twice(wire, 0), BAD);
@@ -815,13 +783,13 @@ public final class PromiseTest {
         Due.is("11 two come", x.tick(1), 2);
         Due.is("11 ten come", x.tick(1), 10);
         // The first, a BAD one, the second, and nine repeats.
-        counts("11", x, 7, 0, 0, 0, 2, 0, 0, 0, 1, 2, 9, 0, 0, 0, 0, 1, 0, 0);
+        Due.counts("11", x, 7, 0, 0, 0, 2, 0, 0, 0, 1, 2, 9, 0, 0, 0, 0, 1, 0, 0);
     }
 
     private static void promise11LayingOnFullWire() {
-        ReplayLink x = new ReplayLink();
+        Counted x = new Counted();
         x.set(0, 6);
-        offerOnes(x, 0, 1, 3);
+        Due.offerOnes(x, 0, 1, 3);
         x.tick(1);
         x.set(0, 4);
         x.tick(1);
@@ -838,7 +806,7 @@ public final class PromiseTest {
     }
 
     private static void promise12Wire() {
-        ReplayLink x = new ReplayLink();
+        Counted x = new Counted();
         x.set(0, 3);
         Due.offer(x, 0, 1, 2, 3);
         for (int i = 0; i < 24; i++) {
@@ -873,7 +841,7 @@ public final class PromiseTest {
         Due.is("12 the next one", x.wire(0, 0, 1), 1);
     }
 
-    private static void readIs(String name, ReplayLink x, int wire, int[] frame, int want) {
+    private static void readIs(String name, Counted x, int wire, int[] frame, int want) {
         Due.forge(x, wire, 0, frame);
         Due.is("12 read " + name, x.wire(wire, 0, READ), want);
     }
@@ -885,9 +853,9 @@ public final class PromiseTest {
     }
 
     private static void promise12ReadAs() {
-        ReplayLink x = new ReplayLink();
+        Counted x = new Counted();
         x.set(2, 0);
-        offerOnes(x, 0, 9, 10);
+        Due.offerOnes(x, 0, 9, 10);
         x.tick(2);
         // Wire 0 holds the second packet, wire 1 the ACK of the first.
         readIs("DATA", x, 0, Due.dataFrame(63, 1), DATA);
@@ -918,12 +886,12 @@ public final class PromiseTest {
         readIs("DATA's begin", x, 1, with(Due.wordFrame(0, 3), 0, 251), SPOILT);
         readIs("another begin", x, 1, with(Due.wordFrame(0, 3), 0, 93), SPOILT);
         Due.is("12 they come", x.tick(1), 2);
-        counts("12", x, 3, 0, 0, 0, 2, 0, 0, 1, 1, 1, 0, 0, 0, 0, 0, 1, 1, 0);
+        Due.counts("12", x, 3, 0, 0, 0, 2, 0, 0, 1, 1, 1, 0, 0, 0, 0, 0, 1, 1, 0);
         Due.is("12 a NAK for it", x.end(0, NAKKED), 1);
     }
 
     private static void promise13End() {
-        ReplayLink x = new ReplayLink();
+        Counted x = new Counted();
         for (int end : new int[] {-1, 2, LOWEST, HIGHEST}) {
             Due.is("13 end", x.end(end, 0), BAD);
         }
@@ -931,24 +899,24 @@ public final class PromiseTest {
             Due.is("13 what", x.end(0, what), BAD);
         }
         x.set(0, 3);
-        offerOnes(x, 0, 1, 3);
+        Due.offerOnes(x, 0, 1, 3);
         x.draft(0, 7, 0);
         x.draft(1, 2, 0);
         x.tick(2);
-        ends("13", x, 0, 1, 2, 2, 63, 1, 0, 0, 0, 0, NONE, 0, 3, 0, 7);
-        ends("13", x, 1, 0, 0, 0, 63, 0, 0, 0, 0, 0, NONE, 0, 0, 0, 2);
+        Due.ends("13", x, 0, 1, 2, 2, 63, 1, 0, 0, 0, 0, NONE, 0, 3, 0, 7);
+        Due.ends("13", x, 1, 0, 0, 0, 63, 0, 0, 0, 0, 0, NONE, 0, 0, 0, 2);
         x.set(1, 2);
         x.tick(1);
-        ends("13", x, 0, 1, 2, 2, 63, 0, 1, 1, 0, 0, NONE, 0, 3, 0, 7);
+        Due.ends("13", x, 0, 1, 2, 2, 63, 0, 1, 1, 0, 0, NONE, 0, 3, 0, 7);
         x.bend(0, 0, 3, 1);
         x.tick(1);
-        ends("13", x, 1, 0, 0, 0, 63, 0, 0, 0, 0, 1, NONE, 0, 0, 0, 2);
+        Due.ends("13", x, 1, 0, 0, 0, 63, 0, 0, 0, 0, 1, NONE, 0, 0, 0, 2);
         nakIsSeenDue();
     }
 
     /** A NAK stays due when training begins in the tick that made it. */
     private static void nakIsSeenDue() {
-        ReplayLink x = new ReplayLink();
+        Counted x = new Counted();
         x.set(1, 1);
         x.set(2, 9);
         Due.offer(x, 0, 1);
@@ -961,16 +929,16 @@ public final class PromiseTest {
         x.bend(0, 0, 3, 1);
         x.tick(1);
         Due.is("13 training", x.count(TRAINING), 5);
-        ends("13 NAK is due", x, 1, 0, 0, 0, 63, 0, 0, 0, 1, 1, 7, 1, 0, 1, 0);
+        Due.ends("13 NAK is due", x, 1, 0, 0, 0, 63, 0, 0, 0, 1, 1, 7, 1, 0, 1, 0);
         x.tick(5);
-        ends("13 NAK is due", x, 1, 0, 0, 0, 63, 0, 0, 0, 1, 1, 7, 1, 0, 1, 0);
+        Due.ends("13 NAK is due", x, 1, 0, 0, 0, 63, 0, 0, 0, 1, 1, 7, 1, 0, 1, 0);
         x.tick(1);
         Due.frameIs("13 NAK", x, 1, 0, Due.wordFrame(16, 0));
-        ends("13 NAK is not due", x, 1, 0, 0, 0, 63, 0, 0, 0, 1, 1, NONE, 0, 0, 1, 0);
+        Due.ends("13 NAK is not due", x, 1, 0, 0, 0, 63, 0, 0, 0, 1, 1, NONE, 0, 0, 1, 0);
     }
 
     private static void promise14And15Up() {
-        ReplayLink x = new ReplayLink();
+        Counted x = new Counted();
         Due.offer(x, 0, 255, 0, 128);
         Due.offer(x, 0, 7);
         x.settle(50);
@@ -997,7 +965,7 @@ public final class PromiseTest {
     }
 
     private static void promise14And15UpPast60() {
-        ReplayLink x = new ReplayLink();
+        Counted x = new Counted();
         for (int i = 0; i < 59; i++) {
             Due.offer(x, 0, i);
             if (i % 15 == 14) {
@@ -1029,39 +997,39 @@ public final class PromiseTest {
     }
 
     private static void promise16Count() {
-        ReplayLink x = new ReplayLink();
+        Counted x = new Counted();
         for (int what : new int[] {-1, 18, LOWEST, HIGHEST}) {
             Due.is("16", x.count(what), BAD);
         }
         x.set(1, 60);
-        offerOnes(x, 0, 1, 2);
+        Due.offerOnes(x, 0, 1, 2);
         Due.offer(x, 1, 3);
         x.voids(0);
         x.tick(1);
-        counts("16 tick 1", x, 1, 0, 0, 0, 1, 0, 1, 0, 0, 0, 0, 0, 0, 0, 0, 0, 0, 0);
+        Due.counts("16 tick 1", x, 1, 0, 0, 0, 1, 0, 1, 0, 0, 0, 0, 0, 0, 0, 0, 0, 0, 0);
         x.tick(1);
-        counts("16 tick 2", x, 2, 0, 0, 0, 2, 0, 1, 0, 0, 1, 0, 0, 1, 0, 0, 0, 0, 0);
+        Due.counts("16 tick 2", x, 2, 0, 0, 0, 2, 0, 1, 0, 0, 1, 0, 0, 1, 0, 0, 0, 0, 0);
         x.twice(0, 0);
         x.tick(1);
-        counts("16 tick 3", x, 3, 0, 0, 0, 2, 0, 1, 1, 0, 2, 1, 0, 1, 0, 0, 0, 0, 0);
+        Due.counts("16 tick 3", x, 3, 0, 0, 0, 2, 0, 1, 1, 0, 2, 1, 0, 1, 0, 0, 0, 0, 0);
         // The ACK of END 0 becomes BAD, a twin of it NOTHING.
         x.twice(0, 0);
         x.bend(0, 0, 0, 1);
         x.bend(0, 1, 2, 1);
         x.tick(1);
-        counts("16 tick 4", x, 4, 0, 0, 0, 3, 0, 1, 1, 1, 2, 1, 0, 1, 0, 0, 1, 1, 0);
+        Due.counts("16 tick 4", x, 4, 0, 0, 0, 3, 0, 1, 1, 1, 2, 1, 0, 1, 0, 0, 1, 1, 0);
         // END 1's NAK of 0 comes twice, once with 33, which END 0 with NEXT 2 holds for WRONG.
         x.twice(1, 0);
         Due.forge(x, 1, 0, Due.wordFrame(16, 33));
         Due.forge(x, 0, 0, Due.dataFrame(4, 2));
         x.tick(1);
-        counts("16 tick 5", x, 5, 0, 0, 1, 3, 1, 1, 1, 1, 2, 1, 1, 1, 2, 1, 1, 1, 0);
+        Due.counts("16 tick 5", x, 5, 0, 0, 1, 3, 1, 1, 1, 1, 2, 1, 1, 1, 2, 1, 1, 1, 0);
         x.settle(400);
         Due.is("16 quiet", x.count(QUIET), 1);
     }
 
     private static void promise17And18KeepAgain() {
-        ReplayLink x = new ReplayLink();
+        Counted x = new Counted();
         for (int k : new int[] {-1, 2, LOWEST, HIGHEST}) {
             Due.is("17 k", x.keep(k), BAD);
             Due.is("18 k", x.again(k), BAD);
@@ -1086,13 +1054,13 @@ public final class PromiseTest {
 
     /** One step for each thing an object holds, so that again() has them all to bring back. */
     private static void promise18AgainBringsAllBack() {
-        ReplayLink x = new ReplayLink();
+        Counted x = new Counted();
         busyWithAll(x);
         long[] before = seen(x);
         x.keep(0);
         x.draft(0, 3, 0xFFFFFFL);
         x.draft(1, 1, 0xFFL);
-        offerOnes(x, 1, 50, 58);
+        Due.offerOnes(x, 1, 50, 58);
         x.bend(0, 0, 1, 77);
         x.twice(0, 0);
         x.set(0, 6);
@@ -1113,7 +1081,7 @@ public final class PromiseTest {
     }
 
     private static void promise18GoesOnAlike() {
-        ReplayLink x = new ReplayLink();
+        Counted x = new Counted();
         busyWithAll(x);
         x.keep(1);
         x.settle(400);
@@ -1128,8 +1096,8 @@ public final class PromiseTest {
 
     /** Kept packets are not those that the object writes over what it had. */
     private static void promise18PacketsOfTheirOwn() {
-        ReplayLink x = new ReplayLink();
-        offerOnes(x, 0, 1, 3);
+        Counted x = new Counted();
+        Due.offerOnes(x, 0, 1, 3);
         x.keep(0);
         x.settle(50);
         x.keep(1);
@@ -1156,7 +1124,7 @@ public final class PromiseTest {
 
     /** Kept as a NAK is due, an ACK is DUE, a TIMER is under way and TRAINING is on. */
     private static void promise18AmidTraining() {
-        ReplayLink x = new ReplayLink();
+        Counted x = new Counted();
         x.set(0, 2);
         x.set(1, 2);
         x.set(2, 9);
@@ -1167,7 +1135,7 @@ public final class PromiseTest {
         Due.offer(x, 1, 7);
         x.tick(2);
         Due.is("18 training", x.count(TRAINING), 5);
-        ends("18 amid training", x, 1, 0, 1, 1, 63, 1, 0, 0, 1, 1, 2, 1, 1, 1, 0);
+        Due.ends("18 amid training", x, 1, 0, 1, 1, 63, 1, 0, 0, 1, 1, 2, 1, 1, 1, 0);
         long[] kept = seen(x);
         x.keep(1);
         x.set(1, 60);
@@ -1181,7 +1149,7 @@ public final class PromiseTest {
     }
 
     private static void promise18FullWires() {
-        ReplayLink x = new ReplayLink();
+        Counted x = new Counted();
         x.set(0, 6);
         Due.offer(x, 0, 1);
         Due.offer(x, 1, 2, 3);
@@ -1203,12 +1171,12 @@ public final class PromiseTest {
         Due.is("18 all come", x.tick(6), 24);
     }
 
-    private static void busyWithAll(ReplayLink x) {
+    private static void busyWithAll(Counted x) {
         x.set(0, 3);
         x.set(1, 5);
         x.set(2, 1);
-        offerOnes(x, 0, 1, 5);
-        offerOnes(x, 1, 21, 24);
+        Due.offerOnes(x, 0, 1, 5);
+        Due.offerOnes(x, 1, 21, 24);
         x.draft(0, 5, 0x0504030201L);
         x.draft(1, 1, 9);
         x.tick(3);
@@ -1218,7 +1186,7 @@ public final class PromiseTest {
     }
 
     /** All that wires, ends and counts tell, and the drafts by their checks. */
-    private static long[] seen(ReplayLink x) {
+    private static long[] seen(Counted x) {
         long[] all = new long[210];
         int n = 0;
         for (int what = 0; what < 18; what++) {
