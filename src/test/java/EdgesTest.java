@@ -33,9 +33,11 @@ public final class EdgesTest implements Names {
         loseTakesFramesOnly();
         loseLeavesTheOthers();
         twiceIsFullAt12();
+        twiceCountsEachWire();
         twiceStandsRightBehind();
         layingFindsAPlaceAt11And12();
         layingOnAFullWireLosesWhatIsLate();
+        layingAWordOnAFullWire();
         wireTakesPlacesFromMinus1();
         wireTakesWhat0To35();
         wireTellsNoneBehindTheFrame();
@@ -469,6 +471,21 @@ public final class EdgesTest implements Names {
         Due.is("full", x.twice(0, 0), FULL);
     }
 
+    private static void twiceCountsEachWire() {
+        Counted x = new Counted();
+        Due.offer(x, 0, 1);
+        Due.offer(x, 1, 2);
+        x.tick(1);
+        for (int there = 2; there <= 12; there++) {
+            Due.is("on WIRE 0", x.twice(0, 0), there);
+        }
+        Due.is("WIRE 0 is full", x.twice(0, 0), FULL);
+        for (int there = 2; there <= 12; there++) {
+            Due.is("on WIRE 1", x.twice(1, 0), there);
+        }
+        Due.is("WIRE 1 is full", x.twice(1, 0), FULL);
+    }
+
     /** Promise 11: "the other one right behind it, to come in the same TICK". */
     private static void twiceStandsRightBehind() {
         for (int place = 0; place < 3; place++) {
@@ -526,6 +543,29 @@ public final class EdgesTest implements Names {
         Due.is("the late one is lost", x.wire(0, 0, BYTES + 2), 1);
         Due.is("the new one", x.wire(0, 11, BYTES + 2), 2);
         Due.is("eleven come", x.tick(1), 11);
+    }
+
+    private static void layingAWordOnAFullWire() {
+        Counted x = new Counted();
+        x.set(R, 60);
+        x.set(A, 0);
+        x.set(DELAY, 6);
+        Due.offerOnes(x, 1, 1, 2);
+        x.tick(2);
+        for (int there = 3; there <= 12; there++) {
+            x.twice(1, 1);
+        }
+        x.set(DELAY, 1);
+        Due.offer(x, 0, 9);
+        x.tick(1);
+        Due.is("twelve", x.wire(1, -1, 0), 12);
+        Due.is("the eldest", x.wire(1, 0, BYTES + 2), 0);
+        Due.is("the packet comes", x.tick(1), 1);
+        Due.is("twelve still", x.wire(1, -1, 0), 12);
+        Due.is("the eldest is lost", x.wire(1, 0, BYTES + 2), 1);
+        Due.frameIs("the ACK", x, 1, 11, Due.wordFrame(ACK_BYTE, 0));
+        Due.is("it comes ahead of them", x.tick(1), 1);
+        Due.is("acknowledged", x.end(0, UNACKED), 0);
     }
 
     /** Promise 12: "place -1: how many there are (what is not looked at)". */

@@ -44,6 +44,7 @@ public final class TickTest implements Names {
         acknowledgedAreNotSentAgain();
         dataFrom32IsARepeat();
         nakkedOnceTillOneIsHandedUp();
+        nakStaysDueWhenOneIsHandedUp();
         voidAndNothingAreDropped();
         eachAloneIsNotQuiet();
         trainingIsNotQuiet();
@@ -774,6 +775,20 @@ public final class TickTest implements Names {
         Due.is("a second NAK", x.count(LAID_NAK), 2);
         Due.frameIs("a second NAK", x, 1, 0, Due.wordFrame(NAK_BYTE, 0));
         Due.ends("NAKKED anew", x, 1, 0, 0, 0, 63, 0, 0, 0, 1, 1, NONE, 0);
+    }
+
+    /** HANDED UP: "it is not NAKKED", which takes no NAK away that is due. */
+    private static void nakStaysDueWhenOneIsHandedUp() {
+        Counted x = new Counted();
+        x.set(R, 60);
+        x.set(A, 9);
+        Due.offer(x, 0, 1);
+        x.tick(1);
+        x.twice(0, 0);
+        x.bend(0, 0, 3, 2);
+        Due.is("a BAD one and a good one", x.tick(1), 2);
+        Due.frameIs("the NAK", x, 1, 0, Due.wordFrame(NAK_BYTE, 0));
+        Due.ends("not NAKKED", x, 1, 0, 0, 0, 63, 0, 0, 0, 1, 0, NONE, 0);
     }
 
     /** "VOID, NOTHING: dropped", though the VOID has the NUMBER that is WANTED. */
